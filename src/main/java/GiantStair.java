@@ -871,6 +871,23 @@ public final class GiantStair {
          * POSITION the first is found first.
          */
         void look(Told told, int[] start) {
+            begin(told, start);
+            for (int i = 0; i < reached && i < POSITIONS; i++) {
+                int position = found[i];
+                int further = awayOf(position) + 1;
+                unfold(position);
+                for (int one = 0; one < told.people && one < MAX_PEOPLE; one++) {
+                    if (told.firstHelp(one, level) != NONE) {
+                        reach(position + PLACE_VALUE[one], position, further);
+                    }
+                    if (told.canSink(one, level)) {
+                        reach(position - PLACE_VALUE[one], position, further);
+                    }
+                }
+            }
+        }
+
+        private void begin(Told told, int[] start) {
             forget();
             goal = 0;
             int from = 0;
@@ -879,9 +896,6 @@ public final class GiantStair {
                 goal += (told.goes(one) ? told.top : start[one]) * PLACE_VALUE[one];
             }
             reach(from, NONE, 0);
-            for (int i = 0; i < reached && i < POSITIONS; i++) {
-                spread(told, found[i]);
-            }
         }
 
         private void forget() {
@@ -891,19 +905,6 @@ public final class GiantStair {
                 }
             }
             reached = 0;
-        }
-
-        private void spread(Told told, int position) {
-            unfold(position);
-            int further = awayOf(position) + 1;
-            for (int one = 0; one < told.people && one < MAX_PEOPLE; one++) {
-                if (told.canRise(one, level)) {
-                    reach(position + PLACE_VALUE[one], position, further);
-                }
-                if (told.canSink(one, level)) {
-                    reach(position - PLACE_VALUE[one], position, further);
-                }
-            }
         }
 
         private void reach(int position, int from, int moves) {
