@@ -310,11 +310,12 @@ public final class GiantStair {
         System.arraycopy(journey.level, 0, judged, 0, MAX_PEOPLE);
         for (int i = 0; i < rowLength && i < MAX_ROW; i++) {
             int one = rowOne[i];
-            boolean can = rowUp[i] == 1 ? told.canRise(one, judged) : told.canSink(one, judged);
-            if (!can || !told.isOne(one)) {
+            boolean rises = rowUp[i] == 1;
+            boolean can = rises ? told.canRise(one, judged) : told.canSink(one, judged);
+            if (!told.isOne(one) || !can) {
                 return i;
             }
-            judged[one] += rowUp[i] == 1 ? 1 : -1;
+            judged[one] += rises ? 1 : -1;
         }
         return NONE;
     }
@@ -589,6 +590,9 @@ public final class GiantStair {
 
         /** The first LIFTER and PULLER in one number, or NONE. */
         int firstHelp(int one, int[] level) {
+            if (!goes(one)) {
+                return NONE;
+            }
             for (int lifter = NONE; lifter < people; lifter++) {
                 // Most are elsewhere; without this every one of them is tried with every PULLER.
                 if (lifter == NONE || standsAt(lifter, one, 0, level)) {

@@ -124,6 +124,12 @@ public final class PromisesTest {
         faultOf("", "Nobody", 0);
         faultOf("", " nobodys", 1);
         faultOf("", "nobod", 0);
+        faultOf("", "nobodyz", 0);
+        faultOf("", "xtair 2", 0);
+        faultOf("", "stain 2", 0);
+        faultOf("", " ".repeat(194) + "nobody", NONE);
+        faultOf("", " ".repeat(193) + "stair 4", NONE);
+        faultOf("", " ".repeat(192) + "stair 14", 198);
         faultOf("", "steprope 1", 0);
         faultOf("", "5", 0);
         faultOf("", "nobody\t", 6);
@@ -482,6 +488,9 @@ public final class PromisesTest {
         tell(x, "nobody;pilgrim 20 5 5;at 0 1");
         due("soonest()", x.soonest(), 0);
         due("lasts()", x.lasts(), 0);
+        tell(x, "stair 1;step 0 30;pilgrim 15 5 5;saint 30 9 9;at 0 1;at 1 1");
+        due("lasts(): up, and not to come down", x.lasts(), 0);
+        due("many(1)", x.many(1), 0);
         // One is up already, too weak a puller to draw the other; he must come down to lift him.
         tell(x, "stair 1;step 0 30;pilgrim 14 5 5;pilgrim 30 5 5;at 1 1;at 0 0");
         due("soonest()", x.soonest(), 3);
@@ -496,6 +505,19 @@ public final class PromisesTest {
         wayIs(x, new int[][] {{0, 1}, {1, 1}});
         due("down(0, -1)", x.down(0, -1), 2);
         due("soonest() from now", x.soonest(), 3);
+        due("up(0, -1, -1)", x.up(0, -1, -1), 3);
+        due("way(1, 0) from now", x.way(1, 0), 1);
+        due("up(0, -1, -1)", x.up(0, -1, -1), 4);
+        due("lasts() from now", x.lasts(), 2);
+        due("roped(0)", x.roped(0), NONE);
+        due("way(0, 0) behind roped", x.way(0, 0), 1);
+        tell(x, "at 0 0;at 1 2");
+        due("lasts() behind a text", x.lasts(), 1);
+        x.keep(0);
+        x.up(0, -1, -1);
+        due("way(1, 0)", x.way(1, 0), NONE);
+        x.back(0);
+        due("way(1, 0) behind back", x.way(1, 0), 0);
     }
 
     private static void mosts() {
