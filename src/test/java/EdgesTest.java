@@ -353,6 +353,11 @@ public final class EdgesTest {
             due("count(1)", x.count(1), 0);
             due("one(0, 0)", x.one(0, 0), UNKNOWN);
             due("soonest()", x.soonest(), 0);
+            if (many > 0) tell(x, crowd(many) + ";at " + (many - 1) + " 2;at 0 2");
+            tell(x, "nobody");
+            due("count(3): of who was there", x.count(3), 0);
+            due("most(1): of who was there", x.most(1), 0);
+            due("many(0)", x.many(0), 1);
         }
         GiantStair x = told("porter 9 8 7;load 0 6;at 0 2", "nobody;saint 1 2 3");
         int[] his = {3, 1, 2, 3, 0};
@@ -793,6 +798,25 @@ public final class EdgesTest {
         due("who goes ALONE owes nobody", x.count(5), 0);
     }
 
+    private static void whoHelpedWhom() {
+        for (int helper = 0; helper < 5; helper++) {
+            for (int one = 0; one < 5; one++) {
+                if (one == helper) continue;
+                GiantStair x = told("stair 1;step 0 30" + ";pilgrim 15 5 5".repeat(5));
+                due("up(" + one + ", " + helper + ", NONE)", x.up(one, helper, NONE), 1);
+                for (int a = 0; a < 5; a++) {
+                    for (int b = 0; b < 5; b++) {
+                        int due = a == b ? UNKNOWN : a == helper && b == one ? 1 : 0;
+                        due("helped(" + a + ", " + b + ")", x.helped(a, b), due);
+                    }
+                    due("one(" + a + ", 5)", x.one(a, 5), a == helper ? 1 : 0);
+                    due("one(" + a + ", 6)", x.one(a, 6), a == one ? 1 : 0);
+                }
+                due("count(5)", x.count(5), 1);
+            }
+        }
+    }
+
     private static void kindsOverOneAnother() {
         int[][] such = {{1, 1, 0, 0, 0}, {1, 1, 1, 0, 0}, {1, 1, 0, 1, 0}, {1, 0, 0, 0, 1}};
         for (int kind = 0; kind < 4; kind++) {
@@ -908,6 +932,13 @@ public final class EdgesTest {
         for (int many = 1; many <= 5; many++) {
             due("lasts() of " + many, told("nobody" + ";proud 20 1 1".repeat(many)).lasts(), (1 << many) - 1);
         }
+        for (int one = 0; one < 5; one++) {
+            GiantStair x = told("nobody" + ";proud 20 1 1;at 0 2;proud 20 1 1;at 1 2;proud 20 1 1;at 2 2;proud 20 1 1;at 3 2;proud 20 1 1;at 4 2");
+            tell(x, "at " + one + " 1");
+            due("lasts() of one MOVE", x.lasts(), 1 << one);
+            tell(x, "at " + one + " 0");
+            due("lasts() of two by one", x.lasts(), 1 << one);
+        }
         due("lasts(): who is up makes none", told("proud 20 1 1;proud 20 1 1;at 0 2").lasts(), 2);
         due("lasts(): SAINTS make none", told("saint 20 1 1;proud 20 1 1;saint 20 1 1;at 2 1").lasts(), 2);
         due("lasts(): the one who needs none", told("stair 1;step 0 30;pilgrim 15 5 9;pilgrim 30 5 9").lasts(), 3);
@@ -937,6 +968,13 @@ public final class EdgesTest {
         x.up(1, NONE, NONE);
         mostIs(x, 2, 3);
         mostIs(told("stair 1;step 0 30;pilgrim 15 5 5;pilgrim 15 5 5"), 1, 1);
+        // Who could be up by an earlier text can not for that.
+        x = told("stair 1;proud 20 1 1;proud 20 1 1");
+        mostIs(x, 2, 3);
+        tell(x, "nobody;proud 20 1 1;proud 19 1 1");
+        mostIs(x, 1, 1);
+        tell(x, "nobody;proud 19 1 1;proud 19 1 1");
+        mostIs(x, 0, 0);
         for (int what : new int[] {-1, 2, MIN, MAX}) due("most(" + what + ")", x.most(what), OUTSIDE);
     }
 
@@ -1044,6 +1082,13 @@ public final class EdgesTest {
         due("one(0, 4) behind odds", x.one(0, 4), 1);
         // Numbers do not move up when others stay away: the last one alone can go.
         oddsAre(told("stair 1;proud 19 1 1;proud 19 1 1;proud 20 1 1"), 5, 1, 4);
+        // So do KIND, WEIGHT, LOAD, STRENGTH and LEVEL of the one who comes go with him.
+        String rope = "stair 1;step 0 60;rope 0;";
+        oddsAre(told(rope + "proud 9 9 8;proud 9 9 9"), 5, 1, 2);
+        oddsAre(told(rope + "proud 9 9 8;proud 9 8 8"), 5, 1, 2);
+        oddsAre(told(rope + "proud 9 8 8;proud 9 8 8;load 0 1"), 5, 1, 2);
+        oddsAre(told(rope + "proud 9 9 8;saint 9 9 8"), 5, 1, 2);
+        oddsAre(told(rope + "proud 9 9 8;proud 9 9 8;at 1 1"), 5, 1, 2);
     }
 
     private static void lowestTerms() {
@@ -1268,6 +1313,56 @@ public final class EdgesTest {
         allRefuse();
     }
 
+    private static List<ToIntFunction<GiantStair>> foretellings() {
+        List<ToIntFunction<GiantStair>> all = new ArrayList<>();
+        for (int what = 0; what < 2; what++) {
+            int w = what;
+            all.add(x -> x.help(0, w));
+            all.add(x -> x.way(0, w));
+            all.add(x -> x.most(w));
+            all.add(x -> x.soon(w));
+            all.add(x -> x.many(w + 1));
+            all.add(x -> x.roped(w));
+            all.add(x -> x.odds(5, w));
+        }
+        all.add(x -> x.soonest());
+        all.add(x -> x.lasts());
+        all.add(x -> x.judge());
+        all.add(x -> x.fault());
+        return all;
+    }
+
+    /** Each is asked as the first behind each other one and a change, beside an object that was told to stand so. */
+    private static void fromNow(String first, String other, ToIntFunction<GiantStair> move) {
+        List<ToIntFunction<GiantStair>> all = foretellings();
+        for (int ahead = 0; ahead < all.size(); ahead++) {
+            for (int asked = 0; asked < all.size(); asked++) {
+                String name = asked + " of what is foretold, behind " + ahead;
+                int atFirst = all.get(asked).applyAsInt(told(first));
+                int then = all.get(asked).applyAsInt(told(first + ";" + other));
+                GiantStair x = told(first);
+                x.keep(0);
+                all.get(ahead).applyAsInt(x);
+                due(name, all.get(asked).applyAsInt(x), atFirst);
+                all.get(ahead).applyAsInt(x);
+                due("the MOVE", move.applyAsInt(x), 1);
+                due(name + " and a MOVE", all.get(asked).applyAsInt(x), then);
+                all.get(ahead).applyAsInt(x);
+                due("back(0)", x.back(0), 0);
+                due(name + " and back", all.get(asked).applyAsInt(x), atFirst);
+                all.get(ahead).applyAsInt(x);
+                tell(x, other);
+                due(name + " and a text", all.get(asked).applyAsInt(x), then);
+            }
+        }
+    }
+
+    private static void fromNowAndNoEarlier() {
+        fromNow("stair 1;step 0 30;pilgrim 14 5 5;pilgrim 30 5 5", "at 1 1", x -> x.up(1, NONE, NONE));
+        fromNow("stair 1;step 0 30;pilgrim 15 5 5;pilgrim 15 5 5", "at 1 1", x -> x.up(1, 0, NONE));
+        fromNow("stair 1;step 0 30;rope 0;pilgrim 9 9 1;pilgrim 9 9 1;at 1 1", "at 1 0", x -> x.down(1, NONE));
+    }
+
     private static void onlyForetold() {
         String untouched = seen(full());
         for (int turn = 0; turn < 2; turn++) {
@@ -1361,6 +1456,33 @@ public final class EdgesTest {
         due("fault(): it stays", x.fault(), 25);
         due("count(0): none of its LINES is done", x.count(0), 2);
         due("count(1)", x.count(1), 0);
+        noneOfItsLines();
+    }
+
+    /** What a text with a FAULT would have told is not there for later texts, nor is it told twice. */
+    private static void noneOfItsLines() {
+        GiantStair x = told("saint 9 5 1;proud 20 1 1");
+        write(x, "nobody;saint 30 50 99;at 0 1;load 0 9;step 0 9;rope 1;x");
+        due("fault()", x.fault(), 54);
+        due("stair()", x.stair(), NOT);
+        x.erase();
+        tell(x, "load 0 1");
+        int[] his = {3, 9, 6, 1, 0};
+        for (int what = 0; what < 5; what++) due("one(0, " + what + ")", x.one(0, what), his[what]);
+        due("count(1)", x.count(1), 2);
+        due("step(0, 0)", x.step(0, 0), 20);
+        due("step(1, 1)", x.step(1, 1), 0);
+        write(x, "saint 1 1 1;saint 1 1 1;load 3 1;rope 1");
+        for (int turn = 0; turn < 3; turn++) {
+            due("fault(), asked again", x.fault(), NONE);
+            due("odds(5, 1)", x.odds(5, 1), 1);
+            due("fault() behind odds", x.fault(), NONE);
+            due("roped(0)", x.roped(0), NONE);
+            due("fault() behind roped", x.fault(), NONE);
+        }
+        due("stair()", x.stair(), 4);
+        due("count(1)", x.count(1), 4);
+        due("step(0, 1)", x.step(0, 1), 0);
     }
 
     private static void keptTwo() {
@@ -1434,6 +1556,22 @@ public final class EdgesTest {
         due("down, above 9999", x.down(0, NONE), FULL);
         tell(x, "rope 0");
         due("up, the first", x.up(0, NONE, NONE), 1);
+    }
+
+    /** The dearest calls, on the largest stair, with all who can be there: the last is answered as the first. */
+    private static void usedFor512Calls() {
+        GiantStair x = new GiantStair();
+        String text = "stair 4" + ";pilgrim 15 5 9".repeat(5) + ";rope 0;rope 1;rope 2;rope 3";
+        tell(x, text);
+        int left = 512 - (text.length() + 7) / 8 - 1;
+        for (int call = 0; call < left; call++) {
+            switch (call % 4) {
+                case 0: due("odds(5, 0)", x.odds(5, 0), 1); break;
+                case 1: due("roped(0)", x.roped(0), NONE); break;
+                case 2: due("soonest()", x.soonest(), 20); break;
+                default: due("many(20)", x.many(20), 1); break;
+            }
+        }
     }
 
     private static void whoIsAtTheTop() {
@@ -1511,6 +1649,7 @@ public final class EdgesTest {
         test("SAINTS go nowhere", EdgesTest::saintsStay);
         test("(all of them help)", EdgesTest::allHelp);
         test("Each that helps in a MOVE has HELPED that one once more", EdgesTest::helpedOnceMore);
+        test("helped: how often one HELPED another one", EdgesTest::whoHelpedWhom);
         test("KINDS are over one another", EdgesTest::kindsOverOneAnother);
         test("what is told is by its own KIND, whatever it is taken as", EdgesTest::byHisOwnKind);
     }
@@ -1527,7 +1666,8 @@ public final class EdgesTest {
         test("ODDS: each comes by p tenths (0 .. 10), by himself", EdgesTest::oddsOfTenths);
         test("who comes being at his LEVEL as now", EdgesTest::whoComesHelps);
         test("Parts are told in lowest terms", EdgesTest::lowestTerms);
-        test("foretold from now (nothing changes)", EdgesTest::onlyForetold);
+        test("FORETOLD from now", EdgesTest::fromNowAndNoEarlier);
+        test("(nothing changes)", EdgesTest::onlyForetold);
         test("THE ROW, 12 MOVES at most", EdgesTest::rowOf12);
         test("JUDGED: the first that can not be, from now (from 0); NONE: all can be", EdgesTest::judgedFromNow);
     }
@@ -1542,6 +1682,7 @@ public final class EdgesTest {
         test("THE TEXT is empty: how many bytes it had", EdgesTest::erasedText);
         test("THE TEXT's LINES are done, and it is empty then; NOT: it has a FAULT", EdgesTest::stairEmptiesTheText);
         test("how many MOVES there were; FULL: above 9999", EdgesTest::fullAbove9999);
+        test("An object is used for at most 512 calls", EdgesTest::usedFor512Calls);
         test("kept (k 0, 1); NOT: nothing was kept since the last text", EdgesTest::keptTwo);
         test("3 those at the TOP, by bits", EdgesTest::whoIsAtTheTop);
         test("0 the TOP, 1 PEOPLE, 2 MOVES, 4 THE ROW, 5 how often one HELPED, 6 bytes of THE TEXT", EdgesTest::counts);
