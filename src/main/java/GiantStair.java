@@ -268,11 +268,9 @@ public final class GiantStair {
             below *= 10;
         }
         for (int who = 0; who < 1 << told.people; who++) {
-            draft.copySome(told, who, journey.level);
-            foreseen = false;
-            search.look(draft, draft.start);
-            if (search.fewest() != NONE) {
-                above += chanceOf(who, p);
+            int chance = chanceOf(who, p);
+            if (chance > 0 && canAllBeUp(who)) {
+                above += chance;
             }
         }
         int common = commonDivisor(above, below);
@@ -371,6 +369,13 @@ public final class GiantStair {
             chance *= (who >> one & 1) == 1 ? p : 10 - p;
         }
         return chance;
+    }
+
+    private boolean canAllBeUp(int who) {
+        draft.copySome(told, who, journey.level);
+        foreseen = false;
+        search.look(draft, draft.start);
+        return search.fewest() != NONE;
     }
 
     private static int commonDivisor(int a, int b) {
@@ -580,8 +585,14 @@ public final class GiantStair {
         }
 
         boolean canSink(int one, int[] level) {
-            for (int catcher = NONE; catcher < people; catcher++) {
-                if (sinksBy(one, catcher, level)) {
+            if (!goes(one) || !isStep(level[one] - 1)) {
+                return false;
+            }
+            if (sinksAlone(one, level[one] - 1)) {
+                return true;
+            }
+            for (int catcher = 0; catcher < people; catcher++) {
+                if (catches(catcher, one, level)) {
                     return true;
                 }
             }
@@ -590,20 +601,25 @@ public final class GiantStair {
 
         /** The first LIFTER and PULLER in one number, or NONE. */
         int firstHelp(int one, int[] level) {
-            if (!goes(one)) {
+            if (!goes(one) || !isStep(level[one])) {
                 return NONE;
             }
+            if (risesAlone(one, level[one])) {
+                return pairOf(NONE, NONE);
+            }
             for (int lifter = NONE; lifter < people; lifter++) {
-                // Most are elsewhere; without this every one of them is tried with every PULLER.
-                if (lifter == NONE || standsAt(lifter, one, 0, level)) {
-                    for (int puller = NONE; puller < people; puller++) {
-                        if (risesBy(one, lifter, puller, level)) {
-                            return (lifter + 1) * HELPERS + puller + 1;
-                        }
+                boolean lifts = standsFor(lifter, one, 0, level);
+                for (int puller = NONE; lifts && puller < people; puller++) {
+                    if (standsFor(puller, one, 1, level) && bringUp(one, lifter, puller, level[one])) {
+                        return pairOf(lifter, puller);
                     }
                 }
             }
             return NONE;
+        }
+
+        private static int pairOf(int lifter, int puller) {
+            return (lifter + 1) * HELPERS + puller + 1;
         }
 
         static int lifterOf(int pair) {
@@ -618,35 +634,45 @@ public final class GiantStair {
             if (!goes(one) || !isStep(level[one])) {
                 return false;
             }
-            int step = level[one];
-            if (height[one] >= stepHeight[step] || rope[step] && strength[one] >= burden[one]) {
+            if (risesAlone(one, level[one])) {
                 return lifter == NONE && puller == NONE;
             }
-            if (kind[one] == PROUD) {
-                return false;
-            }
-            if (lifter != NONE && !standsAt(lifter, one, 0, level)) {
-                return false;
-            }
-            if (puller != NONE && !standsAt(puller, one, 1, level)) {
-                return false;
-            }
-            return hand(lifter) + hand(puller) >= burden[one]
-                && height[one] + tallness(lifter) + tallness(puller) / 2 >= stepHeight[step];
+            return standsFor(lifter, one, 0, level) && standsFor(puller, one, 1, level)
+                && bringUp(one, lifter, puller, level[one]);
         }
 
         boolean sinksBy(int one, int catcher, int[] level) {
             if (!goes(one) || !isStep(level[one] - 1)) {
                 return false;
             }
-            int step = level[one] - 1;
-            if (height[one] >= stepHeight[step] || rope[step]) {
+            if (sinksAlone(one, level[one] - 1)) {
                 return catcher == NONE;
             }
-            if (kind[one] == PROUD) {
-                return false;
-            }
-            return standsAt(catcher, one, -1, level) && hand(catcher) >= burden[one];
+            return catches(catcher, one, level);
+        }
+
+        private boolean risesAlone(int one, int step) {
+            return height[one] >= stepHeight[step] || rope[step] && strength[one] >= burden[one];
+        }
+
+        private boolean sinksAlone(int one, int step) {
+            return height[one] >= stepHeight[step] || rope[step];
+        }
+
+        /** Whether those two, who stand where they must, are strong and tall enough. */
+        private boolean bringUp(int one, int lifter, int puller, int step) {
+            return kind[one] != PROUD && hand(lifter) + hand(puller) >= burden[one]
+                && height[one] + tallness(lifter) + tallness(puller) / 2 >= stepHeight[step];
+        }
+
+        private boolean catches(int catcher, int one, int[] level) {
+            return kind[one] != PROUD && standsAt(catcher, one, -1, level)
+                && hand(catcher) >= burden[one];
+        }
+
+        /** Whether that helper, if there is to be one, stands where he must. */
+        private boolean standsFor(int helper, int one, int above, int[] level) {
+            return helper == NONE || standsAt(helper, one, above, level);
         }
 
         private boolean standsAt(int helper, int one, int above, int[] level) {
@@ -881,11 +907,13 @@ public final class GiantStair {
                 int further = awayOf(position) + 1;
                 unfold(position);
                 for (int one = 0; one < told.people && one < MAX_PEOPLE; one++) {
-                    if (told.firstHelp(one, level) != NONE) {
-                        reach(position + PLACE_VALUE[one], position, further);
+                    int above = position + PLACE_VALUE[one];
+                    if (isNew(above) && told.firstHelp(one, level) != NONE) {
+                        reach(above, position, further);
                     }
-                    if (told.canSink(one, level)) {
-                        reach(position - PLACE_VALUE[one], position, further);
+                    int below = position - PLACE_VALUE[one];
+                    if (isNew(below) && told.canSink(one, level)) {
+                        reach(below, position, further);
                     }
                 }
             }
@@ -911,8 +939,12 @@ public final class GiantStair {
             reached = 0;
         }
 
+        private boolean isNew(int position) {
+            return isPosition(position) && away[position] == NONE;
+        }
+
         private void reach(int position, int from, int moves) {
-            if (isPosition(position) && away[position] == NONE && reached < POSITIONS) {
+            if (isNew(position) && reached < POSITIONS) {
                 away[position] = moves;
                 ahead[position] = from;
                 found[reached] = position;
